@@ -372,7 +372,7 @@ public final class SealedWire {
     }
 
     private int takeGreeting(Side receiver, Bytes record) {
-        if (receiver != server || !server.is(Side.IDLE) || record.size() != HEAD + GREETING_BODY) {
+        if (!receiver.isServer() || !receiver.is(Side.IDLE) || record.size() != HEAD + GREETING_BODY) {
             return FAILED;
         }
         int k = record.at(HEAD + HASH);
@@ -398,7 +398,7 @@ public final class SealedWire {
     }
 
     private int takeReply(Side receiver, Bytes record) {
-        if (receiver != client || !client.is(Side.GREETED) || record.size() != HEAD + REPLY_BODY) {
+        if (receiver.isServer() || !receiver.is(Side.GREETED) || record.size() != HEAD + REPLY_BODY) {
             return FAILED;
         }
         int k = client.greeting().at(HASH);
@@ -426,7 +426,7 @@ public final class SealedWire {
     }
 
     private int takeProof(Side receiver, Bytes record) {
-        if (receiver != server || !server.is(Side.GREETED) || record.size() != HEAD + HASH) {
+        if (!receiver.isServer() || !receiver.is(Side.GREETED) || record.size() != HEAD + HASH) {
             return FAILED;
         }
         // The server goes on with what it found by its key when it replied.
@@ -442,14 +442,14 @@ public final class SealedWire {
         if (!receiver.is(Side.OPEN)) {
             return FAILED;
         }
-        int sender = receiver == server ? CLIENT : SERVER;
+        int sender = receiver.isServer() ? CLIENT : SERVER;
         Direction from = receiver.direction(sender);
         if (!sealer.unseal(from, record, plain) || plain.size() == 0) {
             return FAILED;
         }
         int kind = plain.at(0);
         if (kind == KIND_MESSAGE) {
-            return receiver == server ? takeRequest(from) : takeAnswer(from);
+            return receiver.isServer() ? takeRequest(from) : takeAnswer(from);
         }
         if (plain.size() != 1) {
             return FAILED;
@@ -792,8 +792,11 @@ public final class SealedWire {
             fillBlock();
             text.putPart(record, HEAD, end - HEAD);
             fillBlock();
-            putLength(HEAD);
-            putLength(end - HEAD);
+            // Here the lengths have their lowest byte first, and none needs more than four.
+            text.putNumber(Integer.reverseBytes(HEAD));
+            text.putNumber(0);
+            text.putNumber(Integer.reverseBytes(end - HEAD));
+            text.putNumber(0);
         }
 
         private void fillBlock() {
@@ -801,11 +804,6 @@ public final class SealedWire {
             for (int i = 0; i < zeros; i++) {
                 text.put(0);
             }
-        }
-
-        private void putLength(int n) {
-            text.putNumber(Integer.reverseBytes(n));
-            text.putNumber(0);
         }
 
         private void begin(Stream stream) {
@@ -866,7 +864,7 @@ public final class SealedWire {
         }
 
         private void finish(Stream stream, Bytes into) {
-            // The second limb may still be above 26 bits; what that brings back needs another turn.
+            // The second limb may be above 26 bits yet, and what then goes over comes back once more.
             reduce();
             reduce();
             System.arraycopy(sum, 0, other, 0, LIMBS);
@@ -977,6 +975,7 @@ public final class SealedWire {
 
     /** What the client or the server knows and is. */
     private static final class Side {
+        // BROKEN is the document's FAILED, which is the name of an answer here.
         static final int IDLE = 0, GREETED = 1, OPEN = 2, CLOSED = 3, BROKEN = 4;
 
         private static final int KEYS = 8, RANDOM_MARK = 82, FINISH_MARK = 102;
@@ -1003,6 +1002,10 @@ public final class SealedWire {
             }
         }
 
+        boolean isServer() {
+            return index == SERVER;
+        }
+
         static boolean isKeyNumber(int k) {
             return k >= 0 && k < KEYS;
         }
@@ -1011,9 +1014,9 @@ public final class SealedWire {
             return isKeyNumber(k) && keys[k].size() > 0;
         }
 
-        void setKey(int k, Bytes text) {
+        void setKey(int k, Bytes from) {
             if (isKeyNumber(k)) {
-                hash.digest(text, keys[k]);
+                hash.digest(from, keys[k]);
             }
         }
 

@@ -227,7 +227,8 @@ public final class GreetingTest {
                 pair.sameKey(0);
                 pair.forge(0, Library.join(Library.head(1, told), Library.fill(size, 0)));
                 boolean well = size == 33 && told == 33;
-                Check.due("a greeting of " + size + " that tells " + told, pair.wire.receive(0), well ? 1 : Pair.FAILED);
+                Check.due("a greeting of " + size + " that tells " + told, pair.wire.receive(0),
+                    well ? 1 : Pair.FAILED);
             }
         }
         for (int k = 0; k < 256; k++) {

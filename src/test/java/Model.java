@@ -344,8 +344,9 @@ final class Model {
     }
 
     private int answered(byte[] data) {
-        boolean well = data.length > 0 && (data[0] == 0 ? data.length <= 65 : data[0] > 0 && data[0] < 4 && data.length == 1);
-        if (!well) {
+        boolean withValue = data.length >= 1 && data.length <= 65 && data[0] == 0;
+        boolean bare = data.length == 1 && data[0] >= 1 && data[0] <= 3;
+        if (!withValue && !bare) {
             return FAILED;
         }
         sides[0].numbers[1]++;
@@ -463,7 +464,10 @@ final class Model {
     /** A record that the receiver of a wire, if it is OPEN, unseals: for runs that forge with the keys. */
     byte[] sealedAsDue(int wire, byte[] plain) {
         Party receiver = sides[1 - wire];
-        return receiver.state == OPEN ? Library.sealedRecord(receiver.sealing[wire], receiver.numbers[wire], plain) : null;
+        if (receiver.state != OPEN) {
+            return null;
+        }
+        return Library.sealedRecord(receiver.sealing[wire], receiver.numbers[wire], plain);
     }
 
     boolean isOpen(int side) {

@@ -215,7 +215,8 @@ public final class RandomRunsTest {
             return Library.join(Library.bytes(kind), bytes(dice.nextInt(2)));
         }
         if (on == 1) {
-            return Library.join(Library.bytes(0, dice.nextInt(5)), bytes(dice.nextInt(4) == 0 ? 63 + dice.nextInt(3) : 0));
+            byte[] value = bytes(dice.nextInt(4) == 0 ? 63 + dice.nextInt(3) : 0);
+            return Library.join(Library.bytes(0, dice.nextInt(5)), value);
         }
         int length = dice.nextInt(18);
         int missing = dice.nextInt(6) == 0 ? 1 : 0;

@@ -84,35 +84,42 @@ public final class ReceiveTest {
         Check.due("receive(1) of what was for the server", x.receive(1), Pair.FAILED);
         Check.due("the client is FAILED", x.look(0, 0), Pair.BROKEN);
         Check.due("the server is FAILED", x.look(1, 0), Pair.BROKEN);
-        pair = Pair.open(54);
-        x = pair.wire;
+        renewalOnceMore();
+        oneIsLost();
+        ofTheGreetingBefore();
+    }
+
+    private static void renewalOnceMore() {
+        Pair pair = Pair.open(54);
+        SealedWire x = pair.wire;
         x.renew(0);
-        byte[] old = pair.record(0, 0);
-        x.receive(0);
-        pair.forge(0, old);
-        Check.due("receive(0) of a renewal once more", x.receive(0), Pair.FAILED);
-        pair = Pair.open(54);
-        x = pair.wire;
+        x.copy(0, 0, 0);
+        Check.due("receive(0) of a renewal", x.receive(0), 4);
+        Check.due("receive(0) of it once more", x.receive(0), Pair.FAILED);
+    }
+
+    private static void oneIsLost() {
+        Pair pair = Pair.open(54);
+        SealedWire x = pair.wire;
         x.request(0);
         x.request(0);
         x.drop(0, 0);
         Check.due("receive(0) when one is lost", x.receive(0), Pair.FAILED);
+    }
+
+    private static void ofTheGreetingBefore() {
+        Pair pair = Pair.open(54);
+        SealedWire x = pair.wire;
+        x.request(0);
         x.idle(0);
         x.idle(1);
-        x.request(0);
-        pair = Pair.open(54);
-        x = pair.wire;
-        x.request(0);
-        x.idle(0);
-        x.idle(1);
-        x.hurry(0, 0);
         x.greet(0);
         x.hurry(0, 1);
         x.receive(0);
         x.receive(1);
         x.hurry(0, 1);
-        x.receive(0);
-        Check.due("receive(0) of the greeting before", x.receive(0), Pair.FAILED);
+        Check.due("receive(0) of the new proof", x.receive(0), 3);
+        Check.due("receive(0) of what was sealed before", x.receive(0), Pair.FAILED);
     }
 
     private static void lengthsThatLie() {

@@ -81,7 +81,8 @@ public final class RenewCloseTest {
         x.request(0);
         Check.due("the renewal", pair.record(0, 0), Library.sealedRecord(pair.firstKey(0), 2, Library.bytes(1)));
         byte[] next = Library.nextKey(pair.firstKey(0), 0, 1);
-        Check.due("what is sent behind it", pair.record(0, 1), Library.sealedRecord(next, 0, Library.bytes(0, 0, 1, 'n')));
+        Check.due("what is sent behind it", pair.record(0, 1),
+            Library.sealedRecord(next, 0, Library.bytes(0, 0, 1, 'n')));
         Check.due("receive(0)", x.receive(0), 4);
         Check.due("receive(0)", x.receive(0), 4);
         Check.due("the number", x.look(1, 1), 1);

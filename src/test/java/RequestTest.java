@@ -172,7 +172,8 @@ public final class RequestTest {
 
     private static void namesAreApart() {
         Pair pair = Pair.open(37);
-        String[] all = {"a", "aa", "b", "ab", "ba", "a\0", "\0", "\0\0", "\377", "aaaaaaaaaaaaaaaa", "aaaaaaaaaaaaaaab"};
+        String[] all = {"a", "aa", "b", "ab", "ba", "a\0", "\0", "\0\0", "\377",
+            "aaaaaaaaaaaaaaaa", "aaaaaaaaaaaaaaab"};
         for (String name : all) {
             pair.name(name);
             Check.due("put of another name", pair.ask(3, Pair.text(name)), DONE);
