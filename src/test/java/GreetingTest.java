@@ -1,3 +1,5 @@
+import java.util.Arrays;
+
 /** Promises 7 and 8, and the greeting as the terms tell it: greet, idle, and the three records. */
 public final class GreetingTest {
     public static void main(String[] args) {
@@ -9,6 +11,8 @@ public final class GreetingTest {
         proofWhenFull();
         everyBitCounts();
         wrongStates();
+        onceEach();
+        proofsAreApart();
         wrongSizes();
         idleAgain();
         Check.end();
@@ -218,6 +222,56 @@ public final class GreetingTest {
         Check.due(what + ": what it sends", x.count(3 + side), well ? 1 : 0);
         Check.due(what + ": the record goes", x.count(4 - side), 0);
         Check.due(what + ": the other's state", x.look(1 - side, 0), state);
+    }
+
+    /** A record of the greeting that is good in itself is not taken in another state. */
+    private static void onceEach() {
+        Pair pair = new Pair(31);
+        SealedWire x = pair.wire;
+        pair.sameKey(0);
+        x.greet(0);
+        x.receive(0);
+        x.copy(1, 0, 1);
+        x.copy(1, 0, 1);
+        x.idle(0);
+        Check.due("receive(1) of a reply when IDLE", x.receive(1), Pair.FAILED);
+        Check.due("receive(1) of a reply when FAILED", x.receive(1), Pair.FAILED);
+        Check.due("no proof is sent", x.count(3), 0);
+        pair.empty(1);
+        greetAgain(pair);
+        x.receive(0);
+        x.copy(1, 0, 1);
+        Check.due("receive(1) of a reply", x.receive(1), 2);
+        Check.due("receive(1) of a reply once more", x.receive(1), Pair.FAILED);
+        x.copy(0, 0, 0);
+        x.copy(0, 0, 0);
+        Check.due("receive(0) of a proof", x.receive(0), 3);
+        Check.due("receive(0) of a proof once more", x.receive(0), Pair.FAILED);
+        x.idle(1);
+        Check.due("receive(0) of a proof when IDLE", x.receive(0), Pair.FAILED);
+    }
+
+    /** Each side proves the key by a mark of its own: the other's mark proves nothing. */
+    private static void proofsAreApart() {
+        Pair pair = new Pair(32);
+        SealedWire x = pair.wire;
+        pair.sameKey(0);
+        x.greet(0);
+        x.receive(0);
+        byte[] reply = pair.record(1, 0);
+        pair.forge(0, Library.record(3, Arrays.copyOfRange(reply, 35, 67)));
+        Check.due("receive(0) of the server's own proof", x.receive(0), Pair.FAILED);
+        for (int mark : new int[] {99, 115}) {
+            Pair other = new Pair(33);
+            other.wire.key(0, 6);
+            other.wire.greet(6);
+            byte[] random = Library.fill(32, 77);
+            byte[] g = Library.hash(Library.random(0, 33, 0), Library.bytes(6), random);
+            byte[] f = Library.mac(Library.mac(Library.hash(), g), Library.bytes(102));
+            other.forge(1, Library.record(2, random, Library.mac(f, Library.bytes(mark), g)));
+            int want = mark == 115 ? 2 : Pair.FAILED;
+            Check.due("receive(1) of a reply by the mark " + mark, other.wire.receive(1), want);
+        }
     }
 
     private static void wrongSizes() {

@@ -112,13 +112,13 @@ final class Pair {
 
     /** Fills a wire to its 12 records with ones that mean nothing. */
     void crowd(int on) {
-        while (wire.count(3 + on) < 12) {
+        for (int k = wire.count(3 + on); k < 12; k++) {
             forge(on, Library.bytes(9, 0, 0));
         }
     }
 
     void empty(int on) {
-        while (wire.count(3 + on) > 0) {
+        for (int k = wire.count(3 + on); k > 0; k--) {
             wire.drop(on, 0);
         }
     }

@@ -10,6 +10,7 @@ public final class ReceiveTest {
         everyBitOfASealedRecord();
         replaysAndReflections();
         lengthsThatLie();
+        tooShortToBeSealed();
         kindsThatAreNone();
         requestsThatAreNone();
         requestsThatAre();
@@ -136,6 +137,18 @@ public final class ReceiveTest {
                 boolean well = more == 0 && high == 0;
                 Check.due("receive(0), sealed to tell " + (256 * high + 20 + more), pair.wire.receive(0),
                     well ? 4 : Pair.FAILED);
+            }
+        }
+    }
+
+    private static void tooShortToBeSealed() {
+        for (int on = 0; on < 2; on++) {
+            for (int size = 0; size <= 16; size++) {
+                Pair pair = Pair.open(58);
+                pair.ask(1, Pair.text("v"));
+                pair.forge(on, Library.record(4, new byte[size]));
+                Check.due("receive(" + on + ") of " + size + " sealed bytes", pair.wire.receive(on), Pair.FAILED);
+                Check.due("nothing is done", pair.wire.count(1) + pair.wire.count(2), 2);
             }
         }
     }
