@@ -4,8 +4,14 @@ import java.util.Arrays;
 final class Check {
     private static int looked;
     private static int wrong;
+    private static String sentence = "";
 
     private Check() {
+    }
+
+    /** The words of the document that the answers from here on belong to: a fault is told with them. */
+    static void sentence(String words) {
+        sentence = "\"" + words + "\": ";
     }
 
     static void due(String what, long got, long want) {
@@ -22,10 +28,17 @@ final class Check {
         }
     }
 
+    static void due(String what, String got, String want) {
+        looked++;
+        if (!got.equals(want)) {
+            tell(what + ": it is\n    " + got + "\n  due is\n    " + want);
+        }
+    }
+
     private static void tell(String fault) {
         wrong++;
         if (wrong <= 40) {
-            System.out.println(fault);
+            System.out.println(sentence + fault);
         }
     }
 

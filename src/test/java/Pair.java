@@ -22,6 +22,28 @@ final class Pair {
         return pair;
     }
 
+    /** A side is in a state, with key 0, and both wires are empty. */
+    static Pair inState(int side, int state) {
+        Pair pair = new Pair(90 + state);
+        pair.sameKey(0);
+        if (state == GREETED) {
+            pair.wire.greet(0);
+            pair.wire.receive(0);
+        } else if (state != IDLE) {
+            pair.greetAll(0);
+        }
+        if (state == CLOSED) {
+            pair.wire.close(side);
+        } else if (state == BROKEN) {
+            pair.forge(1 - side, Library.bytes(0, 0, 0));
+            pair.wire.receive(1 - side);
+        }
+        pair.empty(0);
+        pair.empty(1);
+        Check.due("the state of side " + side, pair.wire.look(side, 0), state);
+        return pair;
+    }
+
     void sameKey(int k, int... text) {
         tape(Library.bytes(text));
         Check.due("key(0, " + k + ")", wire.key(0, k), 0);
@@ -106,15 +128,60 @@ final class Pair {
         return bytes;
     }
 
+    /** Comes to the receiver of a wire, OPEN, as the first one, sealed as only who has the keys can. */
+    static Pair comes(int on, byte[] plain, int want) {
+        Pair pair = open(56);
+        Check.due("forge", pair.forge(on, Library.sealedRecord(pair.firstKey(on), 0, plain)), plain.length + 19);
+        Check.due("receive(" + on + ") of " + Arrays.toString(plain), pair.wire.receive(on), want);
+        Check.due("it goes", pair.wire.count(3 + on), 0);
+        if (want == FAILED) {
+            Check.due("the receiver is FAILED", pair.wire.look(1 - on, 0), BROKEN);
+            Check.due("it sends nothing", pair.wire.count(4 - on), 0);
+            Check.due("nothing is done", pair.wire.count(0) + pair.wire.count(1) + pair.wire.count(2), 0);
+        }
+        return pair;
+    }
+
     static byte[] text(String s) {
         return s.getBytes(java.nio.charset.StandardCharsets.ISO_8859_1);
     }
 
     /** Fills a wire to its 12 records with ones that mean nothing. */
     void crowd(int on) {
-        for (int k = wire.count(3 + on); k < 12; k++) {
+        crowd(on, 12);
+    }
+
+    void crowd(int on, int records) {
+        for (int k = wire.count(3 + on); k < records; k++) {
             forge(on, Library.bytes(9, 0, 0));
         }
+    }
+
+    /** All that can be seen without a change: both sides, the counts, the wires and OUT. */
+    String view() {
+        StringBuilder seen = new StringBuilder("sides");
+        for (int side = 0; side < 2; side++) {
+            for (int what = 0; what < 7; what++) {
+                seen.append(' ').append(wire.look(side, what));
+            }
+        }
+        seen.append(" counts");
+        for (int what = 0; what < 5; what++) {
+            seen.append(' ').append(wire.count(what));
+        }
+        for (int on = 0; on < 2; on++) {
+            seen.append(" wire ").append(on);
+            for (int k = 0; k < wire.count(3 + on); k++) {
+                seen.append(' ').append(Arrays.toString(record(on, k)));
+            }
+        }
+        return seen.append(" OUT ").append(Arrays.toString(out())).toString();
+    }
+
+    /** The tape has so many bytes; it stays as it is. */
+    void dueTape(String when, int size) {
+        Check.due("the tape has no more " + when, wire.end(size + 1), REFUSED);
+        Check.due("the tape has no less " + when, wire.end(size), size);
     }
 
     void empty(int on) {

@@ -1,5 +1,3 @@
-import java.util.Arrays;
-
 /** Promise 13: receive, above all of sealed records that are not as told. */
 public final class ReceiveTest {
     private static final byte[] NOTHING = {};
@@ -153,31 +151,18 @@ public final class ReceiveTest {
         }
     }
 
-    /** Comes to the receiver of a wire, sealed with the keys as nobody else could. */
-    private static Pair comes(int on, byte[] plain, int want) {
-        Pair pair = Pair.open(56);
-        Check.due("forge", pair.forge(on, Library.sealedRecord(pair.firstKey(on), 0, plain)), plain.length + 19);
-        Check.due("receive(" + on + ") of " + Arrays.toString(plain), pair.wire.receive(on), want);
-        Check.due("it goes", pair.wire.count(3 + on), 0);
-        if (want == Pair.FAILED) {
-            Check.due("the receiver is FAILED", pair.wire.look(1 - on, 0), Pair.BROKEN);
-            Check.due("it sends nothing", pair.wire.count(4 - on), 0);
-        }
-        return pair;
-    }
-
     private static void kindsThatAreNone() {
         for (int on = 0; on < 2; on++) {
-            comes(on, NOTHING, Pair.FAILED);
-            comes(on, Library.bytes(1), 4);
-            comes(on, Library.bytes(2), 4);
+            Pair.comes(on, NOTHING, Pair.FAILED);
+            Pair.comes(on, Library.bytes(1), 4);
+            Pair.comes(on, Library.bytes(2), 4);
             for (int kind = 3; kind < 256; kind += kind < 5 ? 1 : 25) {
-                comes(on, Library.bytes(kind), Pair.FAILED);
+                Pair.comes(on, Library.bytes(kind), Pair.FAILED);
             }
-            comes(on, Library.bytes(255), Pair.FAILED);
+            Pair.comes(on, Library.bytes(255), Pair.FAILED);
             for (int kind = 1; kind < 3; kind++) {
-                comes(on, Library.bytes(kind, 0), Pair.FAILED);
-                comes(on, Library.join(Library.bytes(kind), new byte[100]), Pair.FAILED);
+                Pair.comes(on, Library.bytes(kind, 0), Pair.FAILED);
+                Pair.comes(on, Library.join(Library.bytes(kind), new byte[100]), Pair.FAILED);
             }
         }
     }
@@ -187,23 +172,23 @@ public final class ReceiveTest {
     }
 
     private static void requestsThatAreNone() {
-        comes(0, Library.bytes(0), Pair.FAILED);
+        Pair.comes(0, Library.bytes(0), Pair.FAILED);
         for (int op = 0; op < 5; op++) {
             int most = op == 0 || op == 2 ? 0 : 64;
-            comes(0, Library.bytes(0, op), Pair.FAILED);
-            comes(0, plainRequest(op, 0, 0, 0), Pair.FAILED);
-            comes(0, plainRequest(op, 0, 0, 1), Pair.FAILED);
-            comes(0, plainRequest(op, 1, 0, 0), Pair.FAILED);
-            comes(0, plainRequest(op, 16, 15, 0), Pair.FAILED);
-            comes(0, plainRequest(op, 17, 17, 0), Pair.FAILED);
-            comes(0, plainRequest(op, 17, 17, most), Pair.FAILED);
-            comes(0, plainRequest(op, 255, 100, 0), Pair.FAILED);
-            comes(0, plainRequest(op, 1, 1, most + 1), Pair.FAILED);
-            comes(0, plainRequest(op, 16, 16, most + 1), Pair.FAILED);
-            comes(0, plainRequest(op, 16, 16, 160), Pair.FAILED);
+            Pair.comes(0, Library.bytes(0, op), Pair.FAILED);
+            Pair.comes(0, plainRequest(op, 0, 0, 0), Pair.FAILED);
+            Pair.comes(0, plainRequest(op, 0, 0, 1), Pair.FAILED);
+            Pair.comes(0, plainRequest(op, 1, 0, 0), Pair.FAILED);
+            Pair.comes(0, plainRequest(op, 16, 15, 0), Pair.FAILED);
+            Pair.comes(0, plainRequest(op, 17, 17, 0), Pair.FAILED);
+            Pair.comes(0, plainRequest(op, 17, 17, most), Pair.FAILED);
+            Pair.comes(0, plainRequest(op, 255, 100, 0), Pair.FAILED);
+            Pair.comes(0, plainRequest(op, 1, 1, most + 1), Pair.FAILED);
+            Pair.comes(0, plainRequest(op, 16, 16, most + 1), Pair.FAILED);
+            Pair.comes(0, plainRequest(op, 16, 16, 160), Pair.FAILED);
         }
         for (int op : new int[] {5, 6, 127, 128, 255}) {
-            comes(0, plainRequest(op, 1, 1, 0), Pair.FAILED);
+            Pair.comes(0, plainRequest(op, 1, 1, 0), Pair.FAILED);
         }
     }
 
@@ -211,7 +196,7 @@ public final class ReceiveTest {
         for (int op = 0; op < 5; op++) {
             int most = op == 0 || op == 2 ? 0 : 64;
             for (int size = 1; size <= 16; size += 15) {
-                Pair pair = comes(0, plainRequest(op, size, size, most), 4);
+                Pair pair = Pair.comes(0, plainRequest(op, size, size, most), 4);
                 int status = op == 1 || op == 3 ? 0 : 1;
                 Check.due("its answer", pair.record(1, 0),
                     Library.sealedRecord(pair.firstKey(1), 0, Library.bytes(0, status)));
@@ -224,27 +209,27 @@ public final class ReceiveTest {
     }
 
     private static void answersByTheirForm() {
-        comes(1, Library.bytes(0), Pair.FAILED);
+        Pair.comes(1, Library.bytes(0), Pair.FAILED);
         for (int size = 0; size <= 64; size += 8) {
             byte[] value = Library.fill(size, size);
-            Pair pair = comes(1, Library.join(Library.bytes(0, 0), value), 4);
+            Pair pair = Pair.comes(1, Library.join(Library.bytes(0, 0), value), 4);
             Check.due("answer() that nobody asked for", pair.wire.answer(), 1 + size);
             Check.due("OUT", pair.out(), Library.join(Library.bytes(0), value));
             Check.due("answers got", pair.wire.count(2), 1);
             Check.due("the number", pair.wire.look(0, 2), 1);
         }
-        comes(1, Library.join(Library.bytes(0, 0), new byte[65]), Pair.FAILED);
-        comes(1, Library.join(Library.bytes(0, 0), new byte[170]), Pair.FAILED);
+        Pair.comes(1, Library.join(Library.bytes(0, 0), new byte[65]), Pair.FAILED);
+        Pair.comes(1, Library.join(Library.bytes(0, 0), new byte[170]), Pair.FAILED);
         for (int status = 1; status < 4; status++) {
-            Pair pair = comes(1, Library.bytes(0, status), 4);
+            Pair pair = Pair.comes(1, Library.bytes(0, status), 4);
             Check.due("answer()", pair.wire.answer(), 1);
             Check.due("its status", pair.wire.octet(0), status);
-            pair = comes(1, Library.bytes(0, status, 0), Pair.FAILED);
+            pair = Pair.comes(1, Library.bytes(0, status, 0), Pair.FAILED);
             Check.due("answer() of none", pair.wire.answer(), Pair.NONE);
             Check.due("answers got", pair.wire.count(2), 0);
         }
         for (int status : new int[] {4, 5, 128, 255}) {
-            comes(1, Library.bytes(0, status), Pair.FAILED);
+            Pair.comes(1, Library.bytes(0, status), Pair.FAILED);
         }
     }
 
