@@ -21,6 +21,7 @@ public final class EdgeGreetingTest {
         clientHasItsKeyThen();
         proofFull();
         serverTakes32Bytes();
+        proofThatItFindsItself();
         serverIsGreeted();
         bothBeginAt0();
         idleRefusedForAnotherSide();
@@ -299,6 +300,32 @@ public final class EdgeGreetingTest {
         byte[] record = pair.record(0, 0);
         pair.wire.drop(0, 0);
         return Arrays.copyOfRange(record, 3, record.length);
+    }
+
+    /** The server asks for the proof of its own latest reply, whatever the client has found since. */
+    private static void proofThatItFindsItself() {
+        Check.sentence("the 32 bytes that it finds itself");
+        Pair old = new Pair(8);
+        old.sameKey(0);
+        old.wire.greet(0);
+        old.wire.copy(0, 0, 0);
+        old.wire.receive(0);
+        old.wire.idle(1);
+        Check.due("receive(0) of the greeting once more", old.wire.receive(0), 1);
+        Check.due("receive(1) of the first reply", old.wire.receive(1), 2);
+        Check.due("receive(0) of a proof for the first reply", old.wire.receive(0), Pair.FAILED);
+        Check.due("the server", old.wire.look(1, 0), Pair.BROKEN);
+
+        Pair late = new Pair(8);
+        byte[] reply = Library.record(2, replyFor(late));
+        late.forge(1, reply);
+        Check.due("receive(1) of the reply", late.wire.receive(1), 2);
+        late.wire.idle(0);
+        late.wire.greet(0);
+        late.forge(1, reply);
+        Check.due("receive(1) of a reply to another greeting", late.wire.receive(1), Pair.FAILED);
+        Check.due("receive(0) of the proof", late.wire.receive(0), 3);
+        Check.due("the server", late.wire.look(1, 0), Pair.OPEN);
     }
 
     private static void serverIsGreeted() {

@@ -2,6 +2,7 @@
 public final class EdgeLookCountTest {
     public static void main(String[] args) {
         lookRefusedForOtherNumbers();
+        idleAsAtFirst();
         lookAtEveryState();
         zeroIfNotOpen();
         keysItHas();
@@ -27,6 +28,16 @@ public final class EdgeLookCountTest {
         for (int side : new int[] {-1, 2, Integer.MIN_VALUE, Integer.MAX_VALUE}) {
             for (int what = -1; what <= 7; what++) {
                 Check.due("look(" + side + ", " + what + ")", pair.wire.look(side, what), Pair.REFUSED);
+            }
+        }
+    }
+
+    private static void idleAsAtFirst() {
+        Check.sentence("THE CLIENT (side 0) and THE SERVER (side 1) are, each, IDLE, as at first");
+        SealedWire x = new SealedWire(1);
+        for (int side = 0; side < 2; side++) {
+            for (int what = 0; what <= 6; what++) {
+                Check.due("look(" + side + ", " + what + ")", x.look(side, what), 0);
             }
         }
     }

@@ -12,6 +12,7 @@ public final class EdgeSealedTest {
         closeFull();
         bothLookInTheirOrder();
         sealedOverEveryEdgeOfABlock();
+        sealedWithItsSortAndLength();
         numberIsOneMoreThen();
         numberOver255();
         eachSideHasItsOwn();
@@ -128,6 +129,28 @@ public final class EdgeSealedTest {
             Check.due("stored()", pair.wire.stored(), bytes.length);
             Check.due("OUT", pair.out(), bytes);
         }
+    }
+
+    private static void sealedWithItsSortAndLength() {
+        Check.sentence("SEAL(.., the sort and the 2 bytes of how many the BODY has, x)");
+        byte[][] heads = {{4, 0, 17}, {4, 0, 16}, {4, 0, 18}, {4, 1, 17}, {3, 0, 17}, {5, 0, 17}, {}, {4}, {4, 0, 17, 0}};
+        for (int d = 0; d < 2; d++) {
+            for (byte[] head : heads) {
+                Pair pair = Pair.open(11);
+                byte[] body = Library.seal(pair.firstKey(d), 0, head, RENEWAL);
+                pair.forge(d, Library.join(heads[0], body));
+                Check.due("receive(" + d + ")", pair.wire.receive(d), head == heads[0] ? 4 : Pair.FAILED);
+            }
+        }
+        for (int number = -1; number <= 1; number++) {
+            Pair pair = Pair.open(11);
+            pair.ask(0);
+            pair.forge(0, Library.sealedRecord(pair.firstKey(0), 1 + number, RENEWAL));
+            Check.due("receive(0) of NUMBER " + (1 + number), pair.wire.receive(0), number == 0 ? 4 : Pair.FAILED);
+        }
+        Pair pair = Pair.open(11);
+        pair.forge(0, Library.sealedRecord(pair.firstKey(1), 0, RENEWAL));
+        Check.due("receive(0) by the KEY of the other direction", pair.wire.receive(0), Pair.FAILED);
     }
 
     private static void numberIsOneMoreThen() {

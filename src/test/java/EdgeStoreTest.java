@@ -14,6 +14,8 @@ public final class EdgeStoreTest {
         requestLooksInItsOrder();
         storeNoneAtFirst();
         storeAtMost20Names();
+        putWhereOneIs();
+        removeOfTheFirstAndTheLast();
         valuesOf0To64();
         moreThan64Behind();
         thereIsNone();
@@ -29,6 +31,7 @@ public final class EdgeStoreTest {
         answerOfOpenAnew();
         storedNoneIfThereIsNone();
         storedOf0And64();
+        storedOfTheFirstAndTheLast();
         Check.end();
     }
 
@@ -198,6 +201,42 @@ public final class EdgeStoreTest {
             pair.name("twentyone");
             Check.due("op " + op + ", the 20th again", pair.ask(op, Library.bytes(21)), DONE);
             Check.due("names", pair.wire.count(0), 20);
+        }
+    }
+
+    private static void putWhereOneIs() {
+        Check.sentence("1 put");
+        for (int names : new int[] {1, 20}) {
+            for (int place : new int[] {0, names - 1}) {
+                Pair pair = withNames(names);
+                pair.name("name " + (char) place);
+                Check.due("put where one is", pair.ask(1, Library.bytes(77, 78)), DONE);
+                Check.due("names", pair.wire.count(0), names);
+                Check.due("get", pair.ask(0), Library.bytes(0, 77, 78));
+                Check.due("remove", pair.ask(2), DONE);
+                Check.due("get of what is removed", pair.ask(0), IS_NONE);
+            }
+        }
+    }
+
+    private static void removeOfTheFirstAndTheLast() {
+        Check.sentence("2 remove");
+        for (int names : new int[] {1, 2, 20}) {
+            for (int gone : new int[] {0, names / 2, names - 1}) {
+                Pair pair = withNames(names);
+                pair.name("name " + (char) gone);
+                Check.due("remove", pair.ask(2), DONE);
+                Check.due("names", pair.wire.count(0), names - 1);
+                pair.name("new");
+                Check.due("put", pair.ask(1, Library.bytes(100)), DONE);
+                for (int i = 0; i < names; i++) {
+                    pair.name("name " + (char) i);
+                    Check.due("stored() of name " + i, pair.wire.stored(), i == gone ? Pair.NONE : 1);
+                    Check.due("its value", i == gone ? i : pair.wire.octet(0), i);
+                }
+                pair.name("new");
+                Check.due("get", pair.ask(0), Library.bytes(0, 100));
+            }
         }
     }
 
@@ -437,5 +476,17 @@ public final class EdgeStoreTest {
             Check.due("stored() of " + size, pair.wire.stored(), size);
             Check.due("OUT", pair.out(), Library.fill(size, 'v'));
         }
+    }
+
+    private static void storedOfTheFirstAndTheLast() {
+        Check.sentence("OUT becomes the VALUE of THE NAME in the store");
+        Pair pair = withNames(20);
+        for (int i : new int[] {0, 1, 18, 19}) {
+            pair.name("name " + (char) i);
+            Check.due("stored()", pair.wire.stored(), 1);
+            Check.due("octet(0)", pair.wire.octet(0), i);
+        }
+        pair.name("name " + (char) 20);
+        Check.due("stored()", pair.wire.stored(), Pair.NONE);
     }
 }
