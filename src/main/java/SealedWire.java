@@ -864,8 +864,7 @@ public final class SealedWire {
         }
 
         private void finish(Stream stream, Bytes into) {
-            // The second limb may be above 26 bits yet, and what then goes over comes back once more.
-            reduce();
+            // The second limb may be a little above 26 bits yet.
             reduce();
             System.arraycopy(sum, 0, other, 0, LIMBS);
             other[0] += 5;

@@ -1,11 +1,32 @@
 import java.lang.management.ManagementFactory;
+import java.lang.reflect.Array;
+import java.lang.reflect.Field;
+import java.lang.reflect.Modifier;
+import java.util.ArrayDeque;
+import java.util.Collections;
+import java.util.Deque;
+import java.util.IdentityHashMap;
+import java.util.Set;
 
-/** The room of a run: the calls make no objects, however many they are. */
+/** The room of a run: a new object is small, and the calls make no objects, however many they are. */
 public final class RoomTest {
     private static final com.sun.management.ThreadMXBean THREADS =
         (com.sun.management.ThreadMXBean) ManagementFactory.getThreadMXBean();
 
-    public static void main(String[] args) {
+    // A five-hundredth of the room of 600,000 objects and 7.3 million fields and elements.
+    private static final int MOST_OBJECTS = 1200, MOST_PARTS = 14600;
+
+    private final Set<Object> seen = Collections.newSetFromMap(new IdentityHashMap<>());
+    private final Deque<Object> waiting = new ArrayDeque<>();
+    private int parts;
+
+    public static void main(String[] args) throws IllegalAccessException {
+        calls();
+        new RoomTest().newObject();
+        Check.end();
+    }
+
+    private static void calls() {
         // The first time loads classes and the like, which is not the class's room.
         roomOf(new SealedWire(1));
         SealedWire x = new SealedWire(2);
@@ -13,7 +34,6 @@ public final class RoomTest {
         Check.due("both are OPEN", x.look(0, 0) + x.look(1, 0), 4);
         Check.due("requests answered", x.count(1), 100);
         Check.due("500 calls stay within 4 KiB: " + room, room < 4096 ? 1 : 0, 1);
-        Check.end();
     }
 
     private static long roomOf(SealedWire x) {
@@ -32,5 +52,41 @@ public final class RoomTest {
             x.answer();
         }
         return THREADS.getCurrentThreadAllocatedBytes() - before;
+    }
+
+    private void newObject() throws IllegalAccessException {
+        waiting.add(new SealedWire(3));
+        while (!waiting.isEmpty()) {
+            Object next = waiting.remove();
+            if (seen.add(next)) {
+                if (next.getClass().isArray()) {
+                    countElements(next);
+                } else {
+                    countFields(next);
+                }
+            }
+        }
+        Check.due("objects and arrays of a new object: " + seen.size(), seen.size() <= MOST_OBJECTS ? 1 : 0, 1);
+        Check.due("fields and elements of a new object: " + parts, parts <= MOST_PARTS ? 1 : 0, 1);
+    }
+
+    private void countElements(Object row) {
+        int length = Array.getLength(row);
+        parts += length;
+        for (int i = 0; i < length && !row.getClass().getComponentType().isPrimitive(); i++) {
+            waiting.add(Array.get(row, i));
+        }
+    }
+
+    private void countFields(Object object) throws IllegalAccessException {
+        for (Field field : object.getClass().getDeclaredFields()) {
+            if (!Modifier.isStatic(field.getModifiers())) {
+                parts++;
+                field.setAccessible(true);
+                if (!field.getType().isPrimitive()) {
+                    waiting.add(field.get(object));
+                }
+            }
+        }
     }
 }
